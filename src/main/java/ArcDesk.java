@@ -20,28 +20,31 @@ public final class ArcDesk {
     private static final int OBJECTS = MOST_BEGUN + 1;
     /** Each object that ends brings two references more; at most 24 can end at once. */
     private static final int PENDING = 2 * MOST_ALIVE + 1;
+    private static final int ALL_INSTRUCTIONS = METHODS * LENGTH;
+    private static final int ALL_VARIABLES = MOST_CALLS * VARIABLES;
+    private static final int ALL_FIELDS = OBJECTS * FIELDS;
 
     private final int[] size = new int[METHODS];
     private final boolean[] takesLent = new boolean[METHODS];
-    private final int[] opOf = new int[METHODS * LENGTH];
-    private final int[] argA = new int[METHODS * LENGTH];
-    private final int[] argB = new int[METHODS * LENGTH];
-    private final int[] argC = new int[METHODS * LENGTH];
+    private final int[] opOf = new int[ALL_INSTRUCTIONS];
+    private final int[] argA = new int[ALL_INSTRUCTIONS];
+    private final int[] argB = new int[ALL_INSTRUCTIONS];
+    private final int[] argC = new int[ALL_INSTRUCTIONS];
 
-    private final int[] needed = new int[METHODS * LENGTH];
-    private final int[] plans = new int[METHODS * LENGTH];
-    private final int[] keeping = new int[METHODS * LENGTH];
-    private final boolean[] reached = new boolean[METHODS * LENGTH];
+    private final int[] needed = new int[ALL_INSTRUCTIONS];
+    private final int[] plans = new int[ALL_INSTRUCTIONS];
+    private final int[] keeping = new int[ALL_INSTRUCTIONS];
+    private final boolean[] reached = new boolean[ALL_INSTRUCTIONS];
 
     private final int[] methodOf = new int[MOST_CALLS];
     private final int[] at = new int[MOST_CALLS];
-    private final int[] held = new int[MOST_CALLS * VARIABLES];
-    private final boolean[] onLoan = new boolean[MOST_CALLS * VARIABLES];
+    private final int[] held = new int[ALL_VARIABLES];
+    private final boolean[] onLoan = new boolean[ALL_VARIABLES];
 
     private final int[] value = new int[OBJECTS];
     private final int[] references = new int[OBJECTS];
     private final boolean[] alive = new boolean[OBJECTS];
-    private final int[] fields = new int[OBJECTS * FIELDS];
+    private final int[] fields = new int[ALL_FIELDS];
     private final int[] pending = new int[PENDING];
 
     private final int[] outs = new int[MOST_BEGUN];
@@ -418,7 +421,7 @@ public final class ArcDesk {
             case PUT: works = putField(k, a, b); break;
             case OUT: putOut(value[held[a]]); break;
             case ADD: works = addInt(k, a); break;
-            case ONLY: putOut(isOnly(a) ? 1 : 0); break;
+            case ONLY: putOnly(a); break;
             case OWN: works = ownObject(a); break;
             case IFNONE: at[top] = held[a] == 0 ? argC[k] : at[top] + 1; return true;
             case GO: at[top] = argC[k]; return true;
@@ -477,6 +480,11 @@ public final class ArcDesk {
     private void putOut(int number) {
         outs[outMany] = number;
         outMany++;
+    }
+
+    private void putOnly(int a) {
+        int only = isOnly(a) ? 1 : 0;
+        putOut(only);
     }
 
     private boolean addInt(int k, int a) {
