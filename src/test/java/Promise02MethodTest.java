@@ -6,6 +6,7 @@ public final class Promise02MethodTest {
         saysHowItTakes();
         refusesOtherMethods();
         leavesTheLatestRunAlone();
+        forgetsWhatWasFound();
         Checks.finish();
     }
 
@@ -63,6 +64,19 @@ public final class Promise02MethodTest {
         }
         Checks.due("method 0 is still owned", desk.set(0, 0, 1), 1);
         Checks.due("method 3 still has one", desk.method(3, Checks.OWNED), 1);
+    }
+
+    /** In a loop, what was needed before the method was laid anew would go round for ever. */
+    private static void forgetsWhatWasFound() {
+        ArcDesk desk = new ArcDesk();
+        for (int v = 0; v < 6; v++) {
+            Checks.lay(desk, 0, Checks.OWNED, Checks.in(Checks.OUT, v, 0, 0), Checks.in(Checks.COPY, 5, v, 0),
+                    Checks.in(Checks.GO, 0, 0, 0));
+            for (int i = 0; i < 3; i++) {
+                Checks.due("needed at " + i, desk.set(0, i, 0), 1 << v);
+                Checks.due("kept at " + i, desk.set(0, i, 1), v == 0 ? 1 : v == 5 ? 32 : 0);
+            }
+        }
     }
 
     private static void leavesTheLatestRunAlone() {

@@ -131,6 +131,8 @@ public final class Promise05PlanTest {
         // The way back: instruction 1 is found only through 3.
         Checks.due("a jump back", planOf(2, Checks.in(Checks.GO, 0, 0, 2), Checks.in(Checks.COPY, 3, 1, 0), get,
                 Checks.in(Checks.IFNONE, 0, 0, 1), zero), 0);
+        Checks.due("a jump back to the first", planOf(2, Checks.in(Checks.COPY, 3, 1, 0), Checks.in(Checks.NONE, 1, 0, 0),
+                get, Checks.in(Checks.IFNONE, 0, 0, 0), zero), 0);
     }
 
     private static void wrongInputs() {

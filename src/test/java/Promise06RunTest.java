@@ -13,6 +13,7 @@ public final class Promise06RunTest {
         letsGoWhatIsNotNeeded();
         goesOnAtJumps();
         endsBehindTheLast();
+        endsAtOnce();
         failsAndChangesNothing();
         failsAtTheTwentyFifth();
         failsAtTheSeventhCall();
@@ -217,6 +218,29 @@ public final class Promise06RunTest {
             Checks.lay(desk, 1, Checks.OWNED, in(Checks.IFNONE, 0, 0, 9), in(Checks.ADD, 0, 0, 1));
             dueRun("behind the last", desk, isShort, DONE);
             Checks.dueState("behind the last", desk, 0, 0, 0, 0, 3, 0, 0, 0, 0, -1);
+        }
+    }
+
+    private static void endsAtOnce() {
+        // What stands behind an END or a GIVE is not done.
+        ArcDesk end = with(in(Checks.NEW, 0, 0, 1), in(Checks.END, 0, 0, 0), in(Checks.OUT, 0, 0, 0));
+        ArcDesk give = with(in(Checks.NEW, 0, 0, 1), in(Checks.GIVE, 0, 0, 0), in(Checks.OUT, 0, 0, 0));
+        // Six methods are behind their last instruction at once: a list of four is gone through.
+        int[] link = in(Checks.PUT, 1, 0, 0);
+        int[] made = in(Checks.NEW, 1, 0, 0);
+        int[] next = in(Checks.COPY, 0, 1, 0);
+        ArcDesk six = with(in(Checks.NEW, 0, 0, 0), made, link, next, made, link, next, made, link, next,
+                in(Checks.CALL, 1, 0, 1));
+        Checks.lay(six, 1, Checks.OWNED, in(Checks.IFNONE, 0, 0, 3), in(Checks.GET, 0, 0, 0), in(Checks.CALL, 1, 0, 1));
+        for (boolean isShort : new boolean[] {Checks.PLAIN, Checks.SHORT}) {
+            dueRun("end", end, isShort, DONE);
+            Checks.dueState("end", end, 0, 1, 0, 1, 2, 0, 1, 0, 0, -1);
+            dueRun("give", give, isShort, DONE);
+            Checks.due("give: begun", give.state(4), 2);
+            dueRun("six at once", six, isShort, DONE);
+            Checks.due("six at once: begun", six.state(4), 24);
+            Checks.due("six at once: made", six.state(6), 4);
+            Checks.due("six at once: ended", six.state(1), 4);
         }
     }
 

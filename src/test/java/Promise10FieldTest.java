@@ -3,6 +3,7 @@ public final class Promise10FieldTest {
     public static void main(String[] args) {
         holdsAndLoses();
         weakFieldsForget();
+        nothingInWhatEnded();
         wrongInputs();
         Checks.finish();
     }
@@ -66,6 +67,17 @@ public final class Promise10FieldTest {
         dueFields("weak, plain: gone when the variables are", desk, 1, 0, 0, 0);
         desk.run(Checks.SHORT, 0);
         Checks.dueOuts("weak, short", desk, 0);
+    }
+
+    private static void nothingInWhatEnded() {
+        ArcDesk desk = new ArcDesk();
+        Checks.lay(desk, 0, Checks.OWNED, in(Checks.NEW, 0, 0, 0), in(Checks.NEW, 1, 0, 0), in(Checks.PUT, 0, 1, 0),
+                in(Checks.PUT, 0, 1, 1), in(Checks.PUT, 0, 1, 2), in(Checks.NONE, 0, 0, 0), in(Checks.GIVE, 1, 0, 0));
+        for (boolean isShort : new boolean[] {Checks.PLAIN, Checks.SHORT}) {
+            Checks.due("run", desk.run(isShort, 0), ArcDesk.DONE);
+            dueFields("what ended", desk, 1, 0, 0, 0);
+            Checks.due("what it held: count(2)", desk.count(2), 1);
+        }
     }
 
     private static void wrongInputs() {
