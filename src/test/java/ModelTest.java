@@ -60,8 +60,8 @@ public final class ModelTest {
         return target < 0 ? 0 : target > 15 ? 15 : target;
     }
 
-    private static ArcDesk desk(int[][][] methods, boolean[] lent) {
-        ArcDesk desk = new ArcDesk();
+    private static Desk desk(int[][][] methods, boolean[] lent) {
+        Desk desk = new Desk();
         for (int m = 0; m < 4; m++) {
             Checks.lay(desk, m, lent[m], methods[m]);
         }
@@ -69,7 +69,7 @@ public final class ModelTest {
     }
 
     private static void compareAnalysis(String name, int[][][] methods, boolean[] lent) {
-        ArcDesk desk = desk(methods, lent);
+        Desk desk = desk(methods, lent);
         Model model = new Model(methods, lent);
         for (int m = 0; m < 4; m++) {
             for (int i = 0; i < methods[m].length; i++) {
@@ -91,7 +91,7 @@ public final class ModelTest {
         tooLong += how == ArcDesk.LONG ? 1 : 0;
 
         // No desk is used for more than 512 calls, so what is asked is spread over some.
-        ArcDesk desk = desk(methods, lent);
+        Desk desk = desk(methods, lent);
         Checks.due(when + ": run", desk.run(isShort, 0), how);
         for (int what = 0; what < 10; what++) {
             Checks.due(when + ": state(" + what + ")", desk.state(what), model.state(what));
@@ -99,17 +99,17 @@ public final class ModelTest {
         for (int k = 0; k < model.outs.size(); k++) {
             Checks.due(when + ": out(" + k + ")", desk.out(k), model.outs.get(k));
         }
-        ArcDesk second = desk(methods, lent);
+        Desk second = desk(methods, lent);
         second.run(isShort, 0);
         for (int k = 0; k < model.ends.size(); k++) {
             Checks.due(when + ": ended(" + k + ")", second.ended(k), model.ends.get(k));
         }
-        ArcDesk third = desk(methods, lent);
+        Desk third = desk(methods, lent);
         third.run(isShort, 0);
         compareThings(when, third, model);
     }
 
-    private static void compareThings(String when, ArcDesk desk, Model model) {
+    private static void compareThings(String when, Desk desk, Model model) {
         int sum = 0;
         for (Model.Thing thing : model.things) {
             int n = thing.number;
@@ -129,7 +129,7 @@ public final class ModelTest {
     }
 
     /** When all is done, only fields and what was given refer to an object. */
-    private static void everyCountIsTrue(String when, ArcDesk desk, Model model) {
+    private static void everyCountIsTrue(String when, Desk desk, Model model) {
         for (Model.Thing thing : model.things) {
             int references = desk.state(7) == thing.number ? 1 : 0;
             for (Model.Thing other : model.things) {

@@ -47,7 +47,7 @@ public final class Promise01NewTest {
     }
 
     private static void nothingWasRun() {
-        ArcDesk desk = new ArcDesk();
+        Desk desk = new Desk();
         Checks.dueState("new", desk, 0, 0, 0, 0, 0, 0, 0, 0, 0, -1);
         Checks.due("new: out(0)", desk.out(0), 0);
         Checks.due("new: ended(0)", desk.ended(0), 0);
@@ -56,7 +56,7 @@ public final class Promise01NewTest {
     }
 
     private static void noInstructions() {
-        ArcDesk desk = new ArcDesk();
+        Desk desk = new Desk();
         for (int m = 0; m < 4; m++) {
             Checks.due("new: plan", desk.plan(m, 0), ArcDesk.BAD);
             Checks.due("new: set", desk.set(m, 0, 0), ArcDesk.BAD);
@@ -66,7 +66,7 @@ public final class Promise01NewTest {
     }
 
     private static void allTakeOwned() {
-        ArcDesk desk = new ArcDesk();
+        Desk desk = new Desk();
         for (int m = 0; m < 4; m++) {
             desk.add(m, Checks.CALL, 1, 0, m);
             Checks.due("new: a call hands over to method " + m, desk.plan(m, 0), 2);
@@ -75,8 +75,8 @@ public final class Promise01NewTest {
     }
 
     private static void objectsAreApart() {
-        ArcDesk one = new ArcDesk();
-        ArcDesk other = new ArcDesk();
+        Desk one = new Desk();
+        Desk other = new Desk();
         one.add(0, Checks.NEW, 0, 0, 1);
         one.run(Checks.PLAIN, 0);
         Checks.due("other: set", other.set(0, 0, 0), ArcDesk.BAD);

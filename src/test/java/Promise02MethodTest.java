@@ -11,7 +11,7 @@ public final class Promise02MethodTest {
     }
 
     private static void answersHowManyItHad() {
-        ArcDesk desk = new ArcDesk();
+        Desk desk = new Desk();
         for (int m = 0; m < 4; m++) {
             for (int i = 0; i <= m; i++) {
                 desk.add(m, Checks.NONE, 0, 0, 0);
@@ -30,7 +30,7 @@ public final class Promise02MethodTest {
     }
 
     private static void leavesTheOthersAlone() {
-        ArcDesk desk = new ArcDesk();
+        Desk desk = new Desk();
         desk.add(0, Checks.OUT, 3, 0, 0);
         desk.add(1, Checks.OUT, 4, 0, 0);
         desk.method(0, Checks.OWNED);
@@ -39,7 +39,7 @@ public final class Promise02MethodTest {
     }
 
     private static void saysHowItTakes() {
-        ArcDesk desk = new ArcDesk();
+        Desk desk = new Desk();
         desk.add(0, Checks.CALL, 1, 0, 1);
         Checks.due("owned at first", desk.plan(0, 0), 2);
         desk.method(1, Checks.LENT);
@@ -55,7 +55,7 @@ public final class Promise02MethodTest {
     }
 
     private static void refusesOtherMethods() {
-        ArcDesk desk = new ArcDesk();
+        Desk desk = new Desk();
         desk.add(0, Checks.OUT, 0, 0, 0);
         desk.add(3, Checks.OUT, 0, 0, 0);
         int[] wrong = {-1, 4, 5, Integer.MIN_VALUE, Integer.MAX_VALUE};
@@ -68,7 +68,7 @@ public final class Promise02MethodTest {
 
     /** In a loop, what was needed before the method was laid anew would go round for ever. */
     private static void forgetsWhatWasFound() {
-        ArcDesk desk = new ArcDesk();
+        Desk desk = new Desk();
         for (int v = 0; v < 6; v++) {
             Checks.lay(desk, 0, Checks.OWNED, Checks.in(Checks.OUT, v, 0, 0), Checks.in(Checks.COPY, 5, v, 0),
                     Checks.in(Checks.GO, 0, 0, 0));
@@ -80,7 +80,7 @@ public final class Promise02MethodTest {
     }
 
     private static void leavesTheLatestRunAlone() {
-        ArcDesk desk = new ArcDesk();
+        Desk desk = new Desk();
         desk.add(0, Checks.NEW, 0, 0, 6);
         desk.add(0, Checks.OUT, 0, 0, 0);
         desk.add(0, Checks.GIVE, 0, 0, 0);

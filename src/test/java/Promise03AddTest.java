@@ -12,7 +12,7 @@ public final class Promise03AddTest {
     }
 
     private static void countsUpToSixteen() {
-        ArcDesk desk = new ArcDesk();
+        Desk desk = new Desk();
         for (int m = 0; m < 4; m++) {
             for (int i = 1; i <= 16; i++) {
                 Checks.due("instruction " + i, desk.add(m, Checks.OUT, 0, 0, 0), i);
@@ -25,7 +25,7 @@ public final class Promise03AddTest {
     }
 
     private static void refusesMethodsAndOps() {
-        ArcDesk desk = new ArcDesk();
+        Desk desk = new Desk();
         for (int wrong : new int[] {-1, 4, 16, LEAST, MOST}) {
             Checks.due("method " + wrong, desk.add(wrong, Checks.END, 0, 0, 0), ArcDesk.BAD);
         }
@@ -41,7 +41,7 @@ public final class Promise03AddTest {
     private static void looksAtA() {
         for (int op = 0; op <= 13; op++) {
             boolean looks = op != Checks.GO && op != Checks.END;
-            ArcDesk desk = new ArcDesk();
+            Desk desk = new Desk();
             int had = 0;
             for (int a : new int[] {-1, 6, LEAST, MOST}) {
                 had += looks ? 0 : 1;
@@ -57,7 +57,7 @@ public final class Promise03AddTest {
     private static void looksAtB() {
         for (int op = 0; op <= 13; op++) {
             boolean looks = op == Checks.COPY || op == Checks.GET || op == Checks.PUT || op == Checks.CALL;
-            ArcDesk desk = new ArcDesk();
+            Desk desk = new Desk();
             int had = 0;
             for (int b : new int[] {-1, 6, LEAST, MOST}) {
                 had += looks ? 0 : 1;
@@ -73,7 +73,7 @@ public final class Promise03AddTest {
     private static void looksAtC() {
         int[] most = {MOST, MOST, MOST, 2, 2, MOST, MOST, MOST, MOST, 15, 15, 3, MOST, MOST};
         for (int op = 0; op <= 13; op++) {
-            ArcDesk desk = new ArcDesk();
+            Desk desk = new Desk();
             boolean looks = most[op] != MOST;
             int had = 0;
             for (int c : new int[] {-1, LEAST, MOST, looks ? most[op] + 1 : 99}) {

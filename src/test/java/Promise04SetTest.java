@@ -15,7 +15,7 @@ public final class Promise04SetTest {
         Checks.finish();
     }
 
-    private static void dueSets(String what, ArcDesk desk, int m, int i, int... want) {
+    private static void dueSets(String what, Desk desk, int m, int i, int... want) {
         for (int w = 0; w < 4; w++) {
             Checks.due(what + ": set(" + m + ", " + i + ", " + w + ")", desk.set(m, i, w), want[w]);
         }
@@ -26,7 +26,7 @@ public final class Promise04SetTest {
         int[] needed = {8, 12, 8, 12, 14, 10, 10, 10, 10, 10, 10, 12, 2, 0};
         int[] alone = {0, 4, 0, 4, 6, 2, 2, 2, 2, 2, 0, 4, 2, 0};
         for (int op = 0; op <= 13; op++) {
-            ArcDesk desk = new ArcDesk();
+            Desk desk = new Desk();
             Checks.lay(desk, 0, Checks.OWNED, Checks.in(op, 1, 2, 1), Checks.in(Checks.PUT, 1, 3, 0));
             Checks.lay(desk, 1, Checks.OWNED, Checks.in(op, 1, 2, 1), Checks.in(Checks.END, 0, 0, 0));
             Checks.due("op " + op + ": needed", desk.set(0, 0, 0), needed[op]);
@@ -34,18 +34,18 @@ public final class Promise04SetTest {
         }
         // With a as b, what is read and written is needed.
         for (int op : new int[] {Checks.COPY, Checks.GET, Checks.PUT, Checks.CALL}) {
-            ArcDesk desk = new ArcDesk();
+            Desk desk = new Desk();
             Checks.lay(desk, 0, Checks.OWNED, Checks.in(op, 5, 5, 0));
             Checks.due("op " + op + " with a as b: needed", desk.set(0, 0, 0), 32);
         }
         // Jumps that are behind the last lead to where nothing is needed.
-        ArcDesk desk = new ArcDesk();
+        Desk desk = new Desk();
         Checks.lay(desk, 0, Checks.OWNED, Checks.in(Checks.GO, 0, 0, 2), Checks.in(Checks.OUT, 0, 0, 0));
         Checks.due("behind the last: needed", desk.set(0, 0, 0), 0);
     }
 
     private static void neededOnEveryWay() {
-        ArcDesk desk = new ArcDesk();
+        Desk desk = new Desk();
         Checks.lay(desk, 0, Checks.OWNED,
                 Checks.in(Checks.IFNONE, 0, 0, 3),
                 Checks.in(Checks.OUT, 1, 0, 0),
@@ -68,7 +68,7 @@ public final class Promise04SetTest {
             Checks.in(Checks.GO, 0, 0, 0),
             Checks.in(Checks.END, 0, 0, 0),
         };
-        ArcDesk desk = new ArcDesk();
+        Desk desk = new Desk();
         Checks.lay(desk, 0, Checks.OWNED, walk);
         Checks.lay(desk, 1, Checks.LENT, walk);
         for (int m = 0; m < 2; m++) {
@@ -81,7 +81,7 @@ public final class Promise04SetTest {
     }
 
     private static void keepingByEachInstruction() {
-        ArcDesk desk = new ArcDesk();
+        Desk desk = new Desk();
         Checks.lay(desk, 0, Checks.LENT,
                 Checks.in(Checks.NEW, 1, 0, 1),     // 1 comes
                 Checks.in(Checks.COPY, 2, 1, 0),    // 2 comes, 1 is still needed
@@ -112,7 +112,7 @@ public final class Promise04SetTest {
     }
 
     private static void leftOnBothWays() {
-        ArcDesk desk = new ArcDesk();
+        Desk desk = new Desk();
         Checks.lay(desk, 2, Checks.OWNED,
                 Checks.in(Checks.NEW, 1, 0, 1),
                 Checks.in(Checks.NEW, 2, 0, 1),
@@ -133,7 +133,7 @@ public final class Promise04SetTest {
     }
 
     private static void leftBehindTheLast() {
-        ArcDesk desk = new ArcDesk();
+        Desk desk = new Desk();
         Checks.lay(desk, 0, Checks.OWNED,
                 Checks.in(Checks.NEW, 2, 0, 1),
                 Checks.in(Checks.IFNONE, 2, 0, 15),
@@ -148,7 +148,7 @@ public final class Promise04SetTest {
     }
 
     private static void nothingWhereNoWayLeads() {
-        ArcDesk desk = new ArcDesk();
+        Desk desk = new Desk();
         Checks.lay(desk, 0, Checks.OWNED,
                 Checks.in(Checks.GO, 0, 0, 3),
                 Checks.in(Checks.NEW, 3, 0, 0),
@@ -165,7 +165,7 @@ public final class Promise04SetTest {
     }
 
     private static void callsByHowTheyTake() {
-        ArcDesk desk = new ArcDesk();
+        Desk desk = new Desk();
         int[][] calls = {
             Checks.in(Checks.CALL, 0, 0, 1),
             Checks.in(Checks.CALL, 2, 0, 1),
@@ -184,7 +184,7 @@ public final class Promise04SetTest {
     }
 
     private static void wrongInputs() {
-        ArcDesk desk = new ArcDesk();
+        Desk desk = new Desk();
         Checks.lay(desk, 0, Checks.OWNED, Checks.in(Checks.OUT, 0, 0, 0), Checks.in(Checks.IFNONE, 0, 0, 0));
         int[] wrong = {-1, 4, Integer.MIN_VALUE, Integer.MAX_VALUE};
         for (int bad : wrong) {

@@ -17,7 +17,7 @@ public final class Promise05PlanTest {
     }
 
     private static int planOf(int i, int[]... instructions) {
-        ArcDesk desk = new ArcDesk();
+        Desk desk = new Desk();
         desk.method(3, Checks.LENT);
         Checks.lay(desk, 0, Checks.OWNED, instructions);
         return desk.plan(0, i);
@@ -136,7 +136,7 @@ public final class Promise05PlanTest {
     }
 
     private static void wrongInputs() {
-        ArcDesk desk = new ArcDesk();
+        Desk desk = new Desk();
         Checks.lay(desk, 0, Checks.OWNED, STOP);
         for (int bad : new int[] {-1, 4, Integer.MIN_VALUE, Integer.MAX_VALUE}) {
             Checks.due("plan(" + bad + ", 0)", desk.plan(bad, 0), ArcDesk.BAD);

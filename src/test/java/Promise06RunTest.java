@@ -28,18 +28,18 @@ public final class Promise06RunTest {
         return Checks.in(op, a, b, c);
     }
 
-    private static ArcDesk with(int[]... instructions) {
-        ArcDesk desk = new ArcDesk();
+    private static Desk with(int[]... instructions) {
+        Desk desk = new Desk();
         Checks.lay(desk, 0, Checks.OWNED, instructions);
         return desk;
     }
 
-    private static void dueRun(String what, ArcDesk desk, boolean isShort, int want) {
+    private static void dueRun(String what, Desk desk, boolean isShort, int want) {
         Checks.due(what + ": run " + (isShort ? "short" : "plain"), desk.run(isShort, 0), want);
     }
 
     private static void refusesOtherMethods() {
-        ArcDesk desk = with(in(Checks.NEW, 0, 0, 4), in(Checks.OUT, 0, 0, 0), in(Checks.GIVE, 0, 0, 0));
+        Desk desk = with(in(Checks.NEW, 0, 0, 4), in(Checks.OUT, 0, 0, 0), in(Checks.GIVE, 0, 0, 0));
         dueRun("before", desk, Checks.SHORT, DONE);
         for (int bad : new int[] {-1, 4, Integer.MIN_VALUE, Integer.MAX_VALUE}) {
             Checks.due("run " + bad, desk.run(Checks.PLAIN, bad), ArcDesk.BAD);
@@ -51,7 +51,7 @@ public final class Promise06RunTest {
     }
 
     private static void failsWithoutInstructions() {
-        ArcDesk desk = with(in(Checks.NEW, 0, 0, 4), in(Checks.OUT, 0, 0, 0), in(Checks.GIVE, 0, 0, 0));
+        Desk desk = with(in(Checks.NEW, 0, 0, 4), in(Checks.OUT, 0, 0, 0), in(Checks.GIVE, 0, 0, 0));
         for (int m = 1; m < 4; m++) {
             desk.run(Checks.PLAIN, 0);
             Checks.due("plain", desk.run(Checks.PLAIN, m), FAILED);
@@ -65,14 +65,14 @@ public final class Promise06RunTest {
     }
 
     private static void countsBeforeItLetsGo() {
-        ArcDesk copy = with(in(Checks.NEW, 0, 0, 5), in(Checks.COPY, 0, 0, 0), in(Checks.OUT, 0, 0, 0));
+        Desk copy = with(in(Checks.NEW, 0, 0, 5), in(Checks.COPY, 0, 0, 0), in(Checks.OUT, 0, 0, 0));
         dueRun("copy to itself", copy, Checks.PLAIN, DONE);
         Checks.dueState("copy to itself", copy, 1, 1, 1, 2, 3, 0, 1, 0, 0, -1);
         Checks.due("copy to itself: out", copy.out(0), 5);
         dueRun("copy to itself", copy, Checks.SHORT, DONE);
         Checks.dueState("copy to itself", copy, 1, 1, 1, 2, 3, 0, 1, 0, 0, -1);
 
-        ArcDesk get = with(in(Checks.NEW, 0, 0, 1), in(Checks.NEW, 1, 0, 2), in(Checks.PUT, 0, 1, 0),
+        Desk get = with(in(Checks.NEW, 0, 0, 1), in(Checks.NEW, 1, 0, 2), in(Checks.PUT, 0, 1, 0),
                 in(Checks.NONE, 1, 0, 0), in(Checks.GET, 0, 0, 0), in(Checks.OUT, 0, 0, 0), in(Checks.GIVE, 0, 0, 0));
         dueRun("get from itself", get, Checks.PLAIN, DONE);
         Checks.dueEnds("get from itself", get, 1);
@@ -82,7 +82,7 @@ public final class Promise06RunTest {
         Checks.dueOuts("get from itself", get, 2);
         Checks.dueState("get from itself", get, 1, 1, 1, 2, 7, 1, 2, 2, 0, -1);
 
-        ArcDesk put = with(in(Checks.NEW, 0, 0, 1), in(Checks.NEW, 1, 0, 2), in(Checks.PUT, 0, 1, 1),
+        Desk put = with(in(Checks.NEW, 0, 0, 1), in(Checks.NEW, 1, 0, 2), in(Checks.PUT, 0, 1, 1),
                 in(Checks.GET, 2, 0, 1), in(Checks.NONE, 1, 0, 0), in(Checks.PUT, 0, 2, 1), in(Checks.GIVE, 0, 0, 0));
         for (boolean isShort : new boolean[] {Checks.PLAIN, Checks.SHORT}) {
             dueRun("put what is there", put, isShort, DONE);
@@ -93,7 +93,7 @@ public final class Promise06RunTest {
     }
 
     private static void owns() {
-        ArcDesk desk = with(in(Checks.NEW, 0, 0, 7), in(Checks.NEW, 1, 0, 8), in(Checks.PUT, 0, 1, 0),
+        Desk desk = with(in(Checks.NEW, 0, 0, 7), in(Checks.NEW, 1, 0, 8), in(Checks.PUT, 0, 1, 0),
                 in(Checks.PUT, 0, 1, 1), in(Checks.PUT, 0, 1, 2), in(Checks.COPY, 2, 0, 0), in(Checks.OWN, 2, 0, 0),
                 in(Checks.ADD, 2, 0, 1), in(Checks.OUT, 0, 0, 0), in(Checks.OUT, 2, 0, 0), in(Checks.ONLY, 2, 0, 0),
                 in(Checks.ONLY, 0, 0, 0), in(Checks.GIVE, 2, 0, 0));
@@ -110,14 +110,14 @@ public final class Promise06RunTest {
         Checks.dueOuts("own", desk, 7, 8, 1, 1);
         Checks.dueState("own", desk, 4, 1, 5, 5, 13, 2, 3, 3, 0, -1);
 
-        ArcDesk only = with(in(Checks.OWN, 0, 0, 0), in(Checks.NEW, 0, 0, 7), in(Checks.OWN, 0, 0, 0),
+        Desk only = with(in(Checks.OWN, 0, 0, 0), in(Checks.NEW, 0, 0, 7), in(Checks.OWN, 0, 0, 0),
                 in(Checks.OUT, 0, 0, 0));
         dueRun("own of what is not shared", only, Checks.PLAIN, DONE);
         Checks.dueState("own of what is not shared", only, 1, 1, 0, 1, 4, 0, 1, 0, 0, -1);
     }
 
     private static void onlyTellsLoansAndHandovers() {
-        ArcDesk desk = with(in(Checks.NEW, 0, 0, 7), in(Checks.ONLY, 0, 0, 0), in(Checks.CALL, 1, 0, 1),
+        Desk desk = with(in(Checks.NEW, 0, 0, 7), in(Checks.ONLY, 0, 0, 0), in(Checks.CALL, 1, 0, 1),
                 in(Checks.CALL, 1, 0, 2), in(Checks.ONLY, 5, 0, 0));
         Checks.lay(desk, 1, Checks.LENT, in(Checks.ONLY, 0, 0, 0));
         Checks.lay(desk, 2, Checks.OWNED, in(Checks.ONLY, 0, 0, 0));
@@ -127,7 +127,7 @@ public final class Promise06RunTest {
         Checks.dueOuts("only", desk, 1, 0, 1, 0);
         Checks.dueState("only", desk, 4, 1, 0, 1, 7, 0, 1, 0, 0, -1);
 
-        ArcDesk loan = with(in(Checks.NEW, 0, 0, 7), in(Checks.CALL, 1, 0, 1), in(Checks.OUT, 0, 0, 0),
+        Desk loan = with(in(Checks.NEW, 0, 0, 7), in(Checks.CALL, 1, 0, 1), in(Checks.OUT, 0, 0, 0),
                 in(Checks.OUT, 1, 0, 0));
         Checks.lay(loan, 1, Checks.LENT, in(Checks.OWN, 0, 0, 0), in(Checks.ADD, 0, 0, 5), in(Checks.GIVE, 0, 0, 0));
         dueRun("own of a loan", loan, Checks.SHORT, DONE);
@@ -135,7 +135,7 @@ public final class Promise06RunTest {
         Checks.dueEnds("own of a loan", loan, 1, 2);
         Checks.dueState("own of a loan", loan, 2, 2, 0, 2, 7, 0, 2, 0, 0, -1);
 
-        ArcDesk field = with(in(Checks.NEW, 0, 0, 1), in(Checks.NEW, 1, 0, 2), in(Checks.PUT, 0, 1, 0),
+        Desk field = with(in(Checks.NEW, 0, 0, 1), in(Checks.NEW, 1, 0, 2), in(Checks.PUT, 0, 1, 0),
                 in(Checks.GET, 1, 0, 0), in(Checks.ONLY, 1, 0, 0), in(Checks.ADD, 1, 0, 9), in(Checks.OUT, 1, 0, 0),
                 in(Checks.OUT, 0, 0, 0));
         dueRun("only of a lent field", field, Checks.SHORT, DONE);
@@ -144,7 +144,7 @@ public final class Promise06RunTest {
     }
 
     private static void callsWithAAsB() {
-        ArcDesk desk = with(in(Checks.NEW, 0, 0, 4), in(Checks.CALL, 0, 0, 1), in(Checks.OUT, 0, 0, 0));
+        Desk desk = with(in(Checks.NEW, 0, 0, 4), in(Checks.CALL, 0, 0, 1), in(Checks.OUT, 0, 0, 0));
         Checks.lay(desk, 1, Checks.OWNED, in(Checks.ADD, 0, 0, 1), in(Checks.GIVE, 0, 0, 0));
         dueRun("call for itself", desk, Checks.PLAIN, DONE);
         Checks.dueOuts("call for itself", desk, 5);
@@ -161,7 +161,7 @@ public final class Promise06RunTest {
 
     /** What is on loan is never handed over, though the plan says so for what is not. */
     private static void callsFromALoan() {
-        ArcDesk desk = with(in(Checks.NEW, 0, 0, 4), in(Checks.CALL, 1, 0, 1), in(Checks.OUT, 0, 0, 0));
+        Desk desk = with(in(Checks.NEW, 0, 0, 4), in(Checks.CALL, 1, 0, 1), in(Checks.OUT, 0, 0, 0));
         Checks.lay(desk, 1, Checks.LENT, in(Checks.CALL, 0, 0, 2), in(Checks.OUT, 0, 0, 0));
         Checks.lay(desk, 2, Checks.OWNED, in(Checks.ONLY, 0, 0, 0));
         Checks.due("plan", desk.plan(1, 0), 2);
@@ -181,7 +181,7 @@ public final class Promise06RunTest {
     }
 
     private static void letsGoWhatIsNotNeeded() {
-        ArcDesk desk = with(in(Checks.NEW, 3, 0, 1), in(Checks.NEW, 2, 0, 2), in(Checks.OUT, 3, 0, 0),
+        Desk desk = with(in(Checks.NEW, 3, 0, 1), in(Checks.NEW, 2, 0, 2), in(Checks.OUT, 3, 0, 0),
                 in(Checks.OUT, 2, 0, 0), in(Checks.NEW, 3, 0, 3), in(Checks.NEW, 2, 0, 4), in(Checks.PUT, 4, 3, 0));
         dueRun("order", desk, Checks.PLAIN, FAILED);
         Checks.dueEnds("order", desk, 1, 2);
@@ -202,7 +202,7 @@ public final class Promise06RunTest {
     }
 
     private static void goesOnAtJumps() {
-        ArcDesk desk = with(in(Checks.NEW, 0, 0, 1), in(Checks.IFNONE, 1, 0, 3), in(Checks.OUT, 1, 0, 0),
+        Desk desk = with(in(Checks.NEW, 0, 0, 1), in(Checks.IFNONE, 1, 0, 3), in(Checks.OUT, 1, 0, 0),
                 in(Checks.IFNONE, 0, 0, 5), in(Checks.OUT, 0, 0, 0), in(Checks.GO, 0, 0, 7), in(Checks.OUT, 0, 0, 0),
                 in(Checks.OUT, 2, 0, 0));
         for (boolean isShort : new boolean[] {Checks.PLAIN, Checks.SHORT}) {
@@ -214,7 +214,7 @@ public final class Promise06RunTest {
 
     private static void endsBehindTheLast() {
         for (boolean isShort : new boolean[] {Checks.PLAIN, Checks.SHORT}) {
-            ArcDesk desk = with(in(Checks.CALL, 1, 0, 1), in(Checks.GO, 0, 0, 15), in(Checks.OUT, 0, 0, 0));
+            Desk desk = with(in(Checks.CALL, 1, 0, 1), in(Checks.GO, 0, 0, 15), in(Checks.OUT, 0, 0, 0));
             Checks.lay(desk, 1, Checks.OWNED, in(Checks.IFNONE, 0, 0, 9), in(Checks.ADD, 0, 0, 1));
             dueRun("behind the last", desk, isShort, DONE);
             Checks.dueState("behind the last", desk, 0, 0, 0, 0, 3, 0, 0, 0, 0, -1);
@@ -223,13 +223,13 @@ public final class Promise06RunTest {
 
     private static void endsAtOnce() {
         // What stands behind an END or a GIVE is not done.
-        ArcDesk end = with(in(Checks.NEW, 0, 0, 1), in(Checks.END, 0, 0, 0), in(Checks.OUT, 0, 0, 0));
-        ArcDesk give = with(in(Checks.NEW, 0, 0, 1), in(Checks.GIVE, 0, 0, 0), in(Checks.OUT, 0, 0, 0));
+        Desk end = with(in(Checks.NEW, 0, 0, 1), in(Checks.END, 0, 0, 0), in(Checks.OUT, 0, 0, 0));
+        Desk give = with(in(Checks.NEW, 0, 0, 1), in(Checks.GIVE, 0, 0, 0), in(Checks.OUT, 0, 0, 0));
         // Six methods are behind their last instruction at once: a list of four is gone through.
         int[] link = in(Checks.PUT, 1, 0, 0);
         int[] made = in(Checks.NEW, 1, 0, 0);
         int[] next = in(Checks.COPY, 0, 1, 0);
-        ArcDesk six = with(in(Checks.NEW, 0, 0, 0), made, link, next, made, link, next, made, link, next,
+        Desk six = with(in(Checks.NEW, 0, 0, 0), made, link, next, made, link, next, made, link, next,
                 in(Checks.CALL, 1, 0, 1));
         Checks.lay(six, 1, Checks.OWNED, in(Checks.IFNONE, 0, 0, 3), in(Checks.GET, 0, 0, 0), in(Checks.CALL, 1, 0, 1));
         for (boolean isShort : new boolean[] {Checks.PLAIN, Checks.SHORT}) {
@@ -248,18 +248,18 @@ public final class Promise06RunTest {
         int[][] failing = {in(Checks.GET, 0, 5, 0), in(Checks.PUT, 5, 0, 0), in(Checks.ADD, 5, 0, 1),
             in(Checks.CALL, 1, 0, 3)};
         for (int[] it : failing) {
-            ArcDesk desk = with(in(Checks.NEW, 0, 0, 4), in(Checks.OUT, 0, 0, 0), it, in(Checks.OUT, 0, 0, 0));
+            Desk desk = with(in(Checks.NEW, 0, 0, 4), in(Checks.OUT, 0, 0, 0), it, in(Checks.OUT, 0, 0, 0));
             dueRun("op " + it[0] + " fails", desk, Checks.PLAIN, FAILED);
             Checks.dueState("op " + it[0] + " fails", desk, 1, 0, 0, 0, 3, 1, 1, 0, 1, 2);
             Checks.due("op " + it[0] + ": count(1)", desk.count(1), 1);
         }
-        ArcDesk call = with(in(Checks.NEW, 0, 0, 4), in(Checks.CALL, 1, 0, 3));
+        Desk call = with(in(Checks.NEW, 0, 0, 4), in(Checks.CALL, 1, 0, 3));
         Checks.due("it would hand over", call.plan(0, 1), 2);
         dueRun("call of an empty method", call, Checks.SHORT, FAILED);
         Checks.dueState("call of an empty method", call, 0, 0, 0, 0, 2, 1, 1, 0, 1, 1);
         Checks.due("call of an empty method: count(1)", call.count(1), 1);
         // It fails inside a call, at instruction 1 of method 2.
-        ArcDesk deep = with(in(Checks.NEW, 0, 0, 4), in(Checks.CALL, 1, 0, 2));
+        Desk deep = with(in(Checks.NEW, 0, 0, 4), in(Checks.CALL, 1, 0, 2));
         Checks.lay(deep, 2, Checks.OWNED, in(Checks.OUT, 0, 0, 0), in(Checks.GET, 0, 3, 0));
         dueRun("inside a call", deep, Checks.PLAIN, FAILED);
         Checks.dueState("inside a call", deep, 1, 0, 1, 0, 4, 1, 1, 0, 2, 33);
@@ -270,10 +270,10 @@ public final class Promise06RunTest {
     private static void failsAtTheTwentyFifth() {
         int[][] chain = {in(Checks.NEW, 0, 0, 1), in(Checks.NEW, 1, 0, 2), in(Checks.PUT, 1, 0, 0),
             in(Checks.COPY, 0, 1, 0), in(Checks.GO, 0, 0, 1)};
-        ArcDesk desk = with(chain);
+        Desk desk = with(chain);
         dueRun("chain", desk, Checks.SHORT, FAILED);
         Checks.dueState("chain", desk, 0, 0, 0, 0, 94, 24, 24, 0, 1, 1);
-        ArcDesk full = fullDesk(in(Checks.OWN, 0, 0, 0), in(Checks.ONLY, 0, 0, 0), in(Checks.COPY, 1, 0, 0),
+        Desk full = fullDesk(in(Checks.OWN, 0, 0, 0), in(Checks.ONLY, 0, 0, 0), in(Checks.COPY, 1, 0, 0),
                 in(Checks.OWN, 1, 0, 0), in(Checks.OUT, 0, 0, 0));
         dueRun("own with 24 alive", full, Checks.PLAIN, FAILED);
         Checks.due("own with 24 alive: alive", full.state(5), 24);
@@ -282,13 +282,13 @@ public final class Promise06RunTest {
         Checks.due("own with 24 alive: fails at", full.state(9), 11);
         Checks.due("own with 24 alive: nothing changed", full.count(1), 2);
         // What NEW would take the place of does not make room before.
-        ArcDesk replace = fullDesk(in(Checks.NEW, 0, 0, 0));
+        Desk replace = fullDesk(in(Checks.NEW, 0, 0, 0));
         dueRun("new over the first", replace, Checks.PLAIN, FAILED);
         Checks.due("new over the first: fails at", replace.state(9), 8);
     }
 
     /** Eight instructions that leave 24 objects: one in variable 0, and 23 in a chain in variable 5. */
-    private static ArcDesk fullDesk(int[]... more) {
+    private static Desk fullDesk(int[]... more) {
         int[][] all = new int[8 + more.length][];
         all[0] = in(Checks.NEW, 0, 0, 7);
         for (int i = 1; i < 8; i++) {
@@ -298,7 +298,7 @@ public final class Promise06RunTest {
         for (int i = 0; i < more.length; i++) {
             all[8 + i] = more[i];
         }
-        ArcDesk desk = with(all);
+        Desk desk = with(all);
         int[][] link = {in(Checks.NEW, 1, 0, 0), in(Checks.PUT, 1, 0, 0), in(Checks.COPY, 0, 1, 0)};
         Checks.lay(desk, 1, Checks.OWNED, link[0], link[1], link[2], link[0], link[1], link[2], link[0], link[1],
                 link[2], link[0], link[1], link[2], link[0], link[1], link[2], in(Checks.GIVE, 0, 0, 0));
@@ -308,7 +308,7 @@ public final class Promise06RunTest {
     }
 
     private static void failsAtTheSeventhCall() {
-        ArcDesk desk = new ArcDesk();
+        Desk desk = new Desk();
         Checks.lay(desk, 0, Checks.OWNED, in(Checks.NEW, 0, 0, 1), in(Checks.CALL, 0, 0, 1));
         Checks.lay(desk, 1, Checks.OWNED, in(Checks.CALL, 0, 0, 2), in(Checks.GIVE, 0, 0, 0));
         Checks.lay(desk, 2, Checks.OWNED, in(Checks.CALL, 0, 0, 3), in(Checks.GIVE, 0, 0, 0));
@@ -324,8 +324,8 @@ public final class Promise06RunTest {
     }
 
     /** Method 3 has 16 instructions, so that a call of it is 17 in all. */
-    private static ArcDesk counting(int[][] first, int[][] second) {
-        ArcDesk desk = with(first);
+    private static Desk counting(int[][] first, int[][] second) {
+        Desk desk = with(first);
         Checks.lay(desk, 2, Checks.OWNED, second);
         for (int i = 0; i < 16; i++) {
             desk.add(3, Checks.NONE, 1, 0, 0);
@@ -346,35 +346,35 @@ public final class Promise06RunTest {
         int[] none = in(Checks.NONE, 2, 0, 0);
         int[][] first = times(15, three, 1, in(Checks.CALL, 1, 0, 2));
         for (boolean isShort : new boolean[] {Checks.PLAIN, Checks.SHORT}) {
-            ArcDesk just = counting(first, times(2, three, 10, none));
+            Desk just = counting(first, times(2, three, 10, none));
             dueRun("300", just, isShort, DONE);
             Checks.dueState("300", just, 0, 0, 0, 0, 300, 0, 0, 0, 0, -1);
-            ArcDesk more = counting(first, times(2, three, 11, none));
+            Desk more = counting(first, times(2, three, 11, none));
             dueRun("301", more, isShort, LONG);
             Checks.dueState("301", more, 0, 0, 0, 0, 300, 0, 0, 0, 2, 44);
             // The 300th is a CALL: it is under way, and its first instruction would be one more.
             int[][] calls = times(2, three, 10, none);
             calls[11] = in(Checks.CALL, 3, 0, 3);
-            ArcDesk call = counting(first, calls);
+            Desk call = counting(first, calls);
             dueRun("a call as the 300th", call, isShort, LONG);
             Checks.dueState("a call as the 300th", call, 0, 0, 0, 0, 300, 0, 0, 0, 3, 48);
             // The 300th is the last of a call that is done then.
             int[][] back = times(14, three, 2, in(Checks.OUT, 1, 0, 0));
             back[14] = in(Checks.CALL, 1, 0, 2);
-            ArcDesk done = counting(back, times(3, three, 10, none));
+            Desk done = counting(back, times(3, three, 10, none));
             dueRun("the last of a call as the 300th", done, isShort, LONG);
             Checks.dueState("the last of a call as the 300th", done, 0, 0, 0, 0, 300, 0, 0, 0, 1, 15);
             // What would fail is not begun any more.
             int[][] fails = times(2, three, 11, none);
             fails[12] = in(Checks.ADD, 4, 0, 1);
-            ArcDesk bad = counting(first, fails);
+            Desk bad = counting(first, fails);
             dueRun("a failing one as the 301st", bad, isShort, LONG);
             Checks.due("a failing one as the 301st: begun", bad.state(4), 300);
         }
     }
 
     private static void isLongWhereItWouldGoOn() {
-        ArcDesk desk = with(in(Checks.NEW, 0, 0, 1), in(Checks.OUT, 0, 0, 0), in(Checks.GO, 0, 0, 0));
+        Desk desk = with(in(Checks.NEW, 0, 0, 1), in(Checks.OUT, 0, 0, 0), in(Checks.GO, 0, 0, 0));
         dueRun("long", desk, Checks.PLAIN, LONG);
         Checks.dueState("long", desk, 100, 99, 0, 99, 300, 1, 100, 0, 1, 0);
         Checks.due("long: count(100)", desk.count(100), 1);
@@ -384,7 +384,7 @@ public final class Promise06RunTest {
     }
 
     private static void beginsAnew() {
-        ArcDesk desk = with(in(Checks.IFNONE, 0, 0, 2), in(Checks.ADD, 5, 0, 0), in(Checks.NEW, 0, 0, 3),
+        Desk desk = with(in(Checks.IFNONE, 0, 0, 2), in(Checks.ADD, 5, 0, 0), in(Checks.NEW, 0, 0, 3),
                 in(Checks.PUT, 0, 0, 1), in(Checks.GET, 1, 0, 0), in(Checks.IFNONE, 1, 0, 7), in(Checks.ADD, 5, 0, 0),
                 in(Checks.NEW, 2, 0, 0), in(Checks.PUT, 0, 2, 0), in(Checks.GIVE, 0, 0, 0));
         for (int round = 0; round < 4; round++) {
@@ -396,7 +396,7 @@ public final class Promise06RunTest {
     }
 
     private static void numbersWrap() {
-        ArcDesk desk = with(in(Checks.NEW, 0, 0, Integer.MAX_VALUE), in(Checks.ADD, 0, 0, 1), in(Checks.OUT, 0, 0, 0),
+        Desk desk = with(in(Checks.NEW, 0, 0, Integer.MAX_VALUE), in(Checks.ADD, 0, 0, 1), in(Checks.OUT, 0, 0, 0),
                 in(Checks.ADD, 0, 0, Integer.MIN_VALUE), in(Checks.OUT, 0, 0, 0), in(Checks.ADD, 0, 0, -1),
                 in(Checks.OUT, 0, 0, 0));
         dueRun("wraps", desk, Checks.SHORT, DONE);

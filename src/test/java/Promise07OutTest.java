@@ -1,7 +1,7 @@
 /** Promise 7: the ints that the latest run put out. */
 public final class Promise07OutTest {
     public static void main(String[] args) {
-        ArcDesk desk = new ArcDesk();
+        Desk desk = new Desk();
         Checks.due("before any run", desk.out(0), 0);
         Checks.lay(desk, 0, Checks.OWNED,
                 Checks.in(Checks.OUT, 0, 0, 0),

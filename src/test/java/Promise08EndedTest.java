@@ -15,7 +15,7 @@ public final class Promise08EndedTest {
 
     /** 1 has 2 and 3, 2 has 4 and 5, 3 has 6: they end 1, 2, 4, 5, 3, 6. */
     private static void fieldZeroWithAllBeforeFieldOne() {
-        ArcDesk desk = new ArcDesk();
+        Desk desk = new Desk();
         Checks.lay(desk, 0, Checks.OWNED,
                 in(Checks.NEW, 0, 0, 0), in(Checks.NEW, 1, 0, 0), in(Checks.NEW, 2, 0, 0), in(Checks.NEW, 3, 0, 0),
                 in(Checks.NEW, 4, 0, 0), in(Checks.NEW, 5, 0, 0), in(Checks.PUT, 2, 5, 0), in(Checks.PUT, 1, 3, 0),
@@ -32,7 +32,7 @@ public final class Promise08EndedTest {
     }
 
     private static void variablesInOrder() {
-        ArcDesk desk = new ArcDesk();
+        Desk desk = new Desk();
         Checks.lay(desk, 3, Checks.OWNED, in(Checks.NEW, 5, 0, 0), in(Checks.NEW, 3, 0, 0), in(Checks.NEW, 4, 0, 0),
                 in(Checks.NEW, 0, 0, 0));
         desk.run(Checks.PLAIN, 3);
@@ -42,7 +42,7 @@ public final class Promise08EndedTest {
     }
 
     private static void ringsStay() {
-        ArcDesk desk = new ArcDesk();
+        Desk desk = new Desk();
         Checks.lay(desk, 0, Checks.OWNED, in(Checks.NEW, 0, 0, 0), in(Checks.NEW, 1, 0, 0), in(Checks.PUT, 0, 1, 0),
                 in(Checks.PUT, 1, 0, 1), in(Checks.NEW, 2, 0, 0), in(Checks.PUT, 2, 2, 2));
         for (boolean isShort : new boolean[] {Checks.PLAIN, Checks.SHORT}) {
@@ -56,7 +56,7 @@ public final class Promise08EndedTest {
     }
 
     private static void sharedEndOnce() {
-        ArcDesk desk = new ArcDesk();
+        Desk desk = new Desk();
         Checks.lay(desk, 0, Checks.OWNED, in(Checks.NEW, 0, 0, 0), in(Checks.NEW, 1, 0, 0), in(Checks.PUT, 0, 1, 0),
                 in(Checks.PUT, 0, 1, 1), in(Checks.NONE, 1, 0, 0), in(Checks.NONE, 0, 0, 0));
         desk.run(Checks.PLAIN, 0);
@@ -65,7 +65,7 @@ public final class Promise08EndedTest {
     }
 
     private static void latestRunAlone() {
-        ArcDesk desk = new ArcDesk();
+        Desk desk = new Desk();
         Checks.due("before any run", desk.ended(0), 0);
         Checks.lay(desk, 0, Checks.OWNED, in(Checks.NEW, 0, 0, 0), in(Checks.NEW, 0, 0, 0));
         Checks.lay(desk, 1, Checks.OWNED, in(Checks.NEW, 0, 0, 0), in(Checks.GIVE, 0, 0, 0));

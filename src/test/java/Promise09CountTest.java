@@ -1,7 +1,7 @@
 /** Promise 9: the counts after the latest run. */
 public final class Promise09CountTest {
     public static void main(String[] args) {
-        ArcDesk desk = new ArcDesk();
+        Desk desk = new Desk();
         Checks.due("before any run", desk.count(1), 0);
         // Object 1: variable 0, variable 2, field 0 and 1 of object 2, and weak in object 2.
         Checks.lay(desk, 0, Checks.OWNED,

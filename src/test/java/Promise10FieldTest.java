@@ -12,14 +12,14 @@ public final class Promise10FieldTest {
         return Checks.in(op, a, b, c);
     }
 
-    private static void dueFields(String when, ArcDesk desk, int n, int... want) {
+    private static void dueFields(String when, Desk desk, int n, int... want) {
         for (int f = 0; f < 3; f++) {
             Checks.due(when + ": field(" + n + ", " + f + ")", desk.field(n, f), want[f]);
         }
     }
 
     private static void holdsAndLoses() {
-        ArcDesk desk = new ArcDesk();
+        Desk desk = new Desk();
         Checks.due("before any run", desk.field(1, 0), 0);
         Checks.lay(desk, 0, Checks.OWNED, in(Checks.NEW, 0, 0, 0), in(Checks.NEW, 1, 0, 0), in(Checks.NEW, 2, 0, 0),
                 in(Checks.PUT, 0, 1, 0), in(Checks.PUT, 0, 2, 1), in(Checks.PUT, 0, 2, 2), in(Checks.PUT, 1, 0, 2),
@@ -37,7 +37,7 @@ public final class Promise10FieldTest {
     }
 
     private static void weakFieldsForget() {
-        ArcDesk desk = new ArcDesk();
+        Desk desk = new Desk();
         Checks.lay(desk, 0, Checks.OWNED, in(Checks.NEW, 0, 0, 0), in(Checks.NEW, 1, 0, 0), in(Checks.NEW, 2, 0, 0),
                 in(Checks.PUT, 0, 2, 0), in(Checks.PUT, 0, 1, 2), in(Checks.PUT, 2, 1, 2), in(Checks.NONE, 1, 0, 0),
                 in(Checks.GET, 3, 0, 2), in(Checks.OUT, 3, 0, 0), in(Checks.IFNONE, 3, 0, 11), in(Checks.ADD, 5, 0, 0),
@@ -70,7 +70,7 @@ public final class Promise10FieldTest {
     }
 
     private static void nothingInWhatEnded() {
-        ArcDesk desk = new ArcDesk();
+        Desk desk = new Desk();
         Checks.lay(desk, 0, Checks.OWNED, in(Checks.NEW, 0, 0, 0), in(Checks.NEW, 1, 0, 0), in(Checks.PUT, 0, 1, 0),
                 in(Checks.PUT, 0, 1, 1), in(Checks.PUT, 0, 1, 2), in(Checks.NONE, 0, 0, 0), in(Checks.GIVE, 1, 0, 0));
         for (boolean isShort : new boolean[] {Checks.PLAIN, Checks.SHORT}) {
@@ -81,7 +81,7 @@ public final class Promise10FieldTest {
     }
 
     private static void wrongInputs() {
-        ArcDesk desk = new ArcDesk();
+        Desk desk = new Desk();
         Checks.lay(desk, 0, Checks.OWNED, in(Checks.NEW, 0, 0, 0), in(Checks.NEW, 1, 0, 0), in(Checks.PUT, 0, 1, 0),
                 in(Checks.PUT, 0, 1, 1), in(Checks.PUT, 0, 1, 2), in(Checks.PUT, 1, 1, 0), in(Checks.GIVE, 0, 0, 0));
         desk.run(Checks.PLAIN, 0);

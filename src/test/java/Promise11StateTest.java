@@ -12,7 +12,7 @@ public final class Promise11StateTest {
     }
 
     private static void afterEachEnd() {
-        ArcDesk desk = new ArcDesk();
+        Desk desk = new Desk();
         Checks.dueState("nothing was run", desk, 0, 0, 0, 0, 0, 0, 0, 0, 0, -1);
         // Method 0 gives an object; method 1 fails in a call of method 2; method 3 goes on for ever.
         Checks.lay(desk, 0, Checks.OWNED, in(Checks.NEW, 1, 0, 2), in(Checks.NEW, 2, 0, 3), in(Checks.OUT, 2, 0, 0),
@@ -40,7 +40,7 @@ public final class Promise11StateTest {
 
     /** Neither nothing, nor what is made, nor what is put into a weak field is counted. */
     private static void countsOnlyReferences() {
-        ArcDesk desk = new ArcDesk();
+        Desk desk = new Desk();
         Checks.lay(desk, 0, Checks.OWNED, in(Checks.COPY, 1, 0, 0), in(Checks.NEW, 2, 0, 0), in(Checks.PUT, 2, 1, 0),
                 in(Checks.PUT, 2, 2, 2), in(Checks.GET, 3, 2, 0), in(Checks.CALL, 4, 1, 1), in(Checks.NONE, 5, 0, 0),
                 in(Checks.GIVE, 1, 0, 0));
@@ -57,7 +57,7 @@ public final class Promise11StateTest {
     }
 
     private static void refusesOthers() {
-        ArcDesk desk = new ArcDesk();
+        Desk desk = new Desk();
         for (int bad : new int[] {-1, 10, 11, Integer.MIN_VALUE, Integer.MAX_VALUE}) {
             Checks.due("state(" + bad + ")", desk.state(bad), ArcDesk.BAD);
         }

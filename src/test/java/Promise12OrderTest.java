@@ -7,7 +7,7 @@ public final class Promise12OrderTest {
     }
 
     private static void badBeforeFull() {
-        ArcDesk desk = new ArcDesk();
+        Desk desk = new Desk();
         for (int i = 0; i < 16; i++) {
             desk.add(0, Checks.OUT, i % 6, 0, 0);
         }
@@ -32,7 +32,7 @@ public final class Promise12OrderTest {
     }
 
     private static void badBeforeNoWay() {
-        ArcDesk desk = new ArcDesk();
+        Desk desk = new Desk();
         Checks.lay(desk, 0, Checks.OWNED,
                 Checks.in(Checks.END, 0, 0, 0),
                 Checks.in(Checks.OUT, 0, 0, 0),
