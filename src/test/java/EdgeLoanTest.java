@@ -84,7 +84,13 @@ public final class EdgeLoanTest {
         duePlan(Program.times(15, "OUT 0") + "; GET 1 0 1", 15, 1);
         // What the next method begins with is not behind it.
         Desk desk = Program.desk(Program.times(15, "OUT 0") + "; GET 1 0 1", Program.times(16, "PUT 0 1 0"));
+        Checks.due("the next method needs both", desk.set(1, 0, 0), 3);
         Checks.due("the next method", desk.plan(0, 15), 1);
+        // Nor is what stood there before the method was laid anew.
+        Program.lay(desk, 0, "GET 1 0 0; COPY 2 1; PUT 0 1 0");
+        Checks.due("before", desk.plan(0, 0), 0);
+        Program.lay(desk, 0, "GET 1 0 0");
+        Checks.due("laid anew", desk.plan(0, 0), 1);
     }
 
     private static void onAllWays() {
